@@ -439,8 +439,10 @@ public final class SameParts {
       return x >= 0 && x < size;
     }
 
+    /** As cell and at: asked for most, and from the deepest calls, so it calls none itself. */
     private int strength(int kind, int x, int z) {
-      return at(strengths, cell(kind, x, z));
+      int place = (kind * MOST_PERSONS + x) * MOST_PERSONS + z;
+      return place >= 0 && place < strengths.length ? strengths[place] : 0;
     }
 
     private boolean tied(int kind, int x, int z) {
@@ -585,11 +587,8 @@ public final class SameParts {
       heard.draft(Told.STRENGTH, 1);
       heard.draft(Told.SINCE, 0);
       heard.draft(Told.UNTIL, LAST_YEAR);
-      return readPair() && readInto(Told.KIND, '0', '0' + KINDS - 1, '0') && readStrength() && readYears();
-    }
-
-    private boolean readPair() {
-      return readPerson(Told.FROM) && skip('>') && here() != 'a' + drafted(Told.FROM) && readPerson(Told.TO);
+      return readPerson(Told.FROM) && skip('>') && here() != 'a' + drafted(Told.FROM) && readPerson(Told.TO)
+          && readInto(Told.KIND, '0', '0' + KINDS - 1, '0') && readStrength() && readYears();
     }
 
     private boolean readPerson(int which) {
@@ -889,25 +888,21 @@ public final class SameParts {
 
     private static boolean swappable(Town town, int x, int y, boolean strengths) {
       for (int kind = 0; kind < KINDS; kind++) {
-        if (!match(town.strength(kind, x, y), town.strength(kind, y, x), strengths)) {
-          return false;
+        boolean same = match(town.strength(kind, x, y), town.strength(kind, y, x), strengths);
+        for (int z = 0; z < town.size && same; z++) {
+          same = z == x || z == y
+              || match(town.strength(kind, x, z), town.strength(kind, y, z), strengths)
+              && match(town.strength(kind, z, x), town.strength(kind, z, y), strengths);
         }
-        for (int z = 0; z < town.size; z++) {
-          if (z != x && z != y && !swappableFor(town, kind, x, y, z, strengths)) {
-            return false;
-          }
+        if (!same) {
+          return false;
         }
       }
       return true;
     }
 
-    private static boolean swappableFor(Town town, int kind, int x, int y, int z, boolean strengths) {
-      return match(town.strength(kind, x, z), town.strength(kind, y, z), strengths)
-          && match(town.strength(kind, z, x), town.strength(kind, z, y), strengths);
-    }
-
     private static boolean match(int a, int b, boolean strengths) {
-      return strengths ? a == b : a > 0 == b > 0;
+      return strengths ? a == b : (a > 0) == (b > 0);
     }
   }
   /** Ways to put the persons in another order, tried one behind the other. */
@@ -988,7 +983,7 @@ public final class SameParts {
 
     private int nextKeeping(Town town, int fixed, int x, int y) {
       for (int person = lift(); person < town.size; person++) {
-        boolean due = depth < fixed ? person == depth : depth == x == (person == y);
+        boolean due = depth < fixed ? person == depth : (depth == x) == (person == y);
         if (due && !holds(used, person) && keepsAhead(town, person) && keeps(town, depth, x, person, y)) {
           return person;
         }
