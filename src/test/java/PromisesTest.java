@@ -111,6 +111,8 @@ public final class PromisesTest {
     due("P4 unchanged by refusals", t.count(3), 100);
     due("P4 back", t.year(4), 100);
     due("P4 not yet", t.tie(0, 0, 1), 0);
+    due("P4 the first year again", t.year(0), 4);
+    due("P4 that is taken", t.count(3), 0);
   }
 
   private static void feed() {
@@ -235,6 +237,11 @@ public final class PromisesTest {
     due("P6 from 7", t.tie(0, 0, 2), 1);
     t.year(10);
     due("P6 till ahead of 10", t.tie(0, 0, 2), 0);
+    t = Check.town(3, "a>b0*7@5-7");
+    due("P6 one without a year or strength", Check.say(t, "b>a0"), 2);
+    due("P6 is from 0 behind one that is not", t.tie(0, 1, 0), 1);
+    t.year(99);
+    due("P6 and till 100", t.tie(0, 1, 0), 1);
   }
 
   private static void untie() {
@@ -329,6 +336,9 @@ public final class PromisesTest {
     t = Check.town(4, "a>b0;a>c0;d>b0");
     due("P11 some as like", t.judge(110, 3), -9);
     due("P11 not as many", t.judge(110, 4), 3);
+    due("P11 two to one part, one to the next", Check.town(5, "a>c0;a>d0;b>e0").judge(112, 4), 1);
+    t = Check.town(7, "a>b0;a>c0;a>d0;a>e0;a>f0;a>g0");
+    due("P11 six to one part", t.judge(111111, 4), -9);
   }
 
   private static void coarsest() {
@@ -377,6 +387,8 @@ public final class PromisesTest {
     t.year(1);
     due("P13 of that year", t.renamings(), 1);
     due("P13 two rounds", Check.town(6, "a>b0;b>c0;c>a0;d>e0;e>f0;f>d0").renamings(), 18);
+    due("P13 three ways of one length", Check.town(6, "a>b0;c>d0;e>f0").renamings(), 6);
+    due("P13 ways of two lengths", Check.town(6, "a>b0;b>c0;d>e0").renamings(), 1);
   }
 
   private static void moves() {
@@ -393,6 +405,11 @@ public final class PromisesTest {
     t.mark(1, 1);
     due("P14 other marks", t.moves(0, 1), 0);
     due("P14 back", t.moves(1, 0), 0);
+    due("P14 what comes behind differs", Check.town(6, "a>b0;b>c0;d>e0").moves(0, 3), 0);
+    t = Check.town(4, "a>b0;c>d0");
+    due("P14 the others move along", t.moves(0, 2), 1);
+    t.mark(3, 1);
+    due("P14 the others' marks keep them", t.moves(0, 2), 0);
   }
 
   private static void orbits() {
@@ -423,6 +440,9 @@ public final class PromisesTest {
     // 00 0000 0020 0300
     due("P16 the first kind tells the order", Check.town(2, "b>a1*2;a>b2*3").form(), 200300);
     due("P16 one", Check.town(1, "").form(), 0);
+    // 000 000200500 000000000 000000000: c, b, a
+    due("P16 the same, but no twins", Check.town(3, "a>c0*5;b>c0*2").form(), 9824500);
+    due("P16 nor told the other way", Check.town(3, "a>c0*2;b>c0*5").form(), 9824500);
     t = Check.town(1, "");
     t.mark(0, 3);
     due("P16 one with a mark", t.form(), 3000);
@@ -540,6 +560,7 @@ public final class PromisesTest {
     due("P22 each alone", t.wrong(1234), 0);
     t.year(100);
     due("P22 no ties", t.wrong(111), 0);
+    due("P22 all within", Check.town(2, "a>b0;b>a0").wrong(0), 0);
     due("P22 no parting", t.wrong(2), -1);
     due("P22 below", t.wrong(-1), -1);
   }
@@ -557,6 +578,19 @@ public final class PromisesTest {
     due("P23 of several the least number", t.least(2, 0), 1);
     due("P23 wrong there", t.least(2, 1), 1);
     due("P23 no gap", t.least(2, 2), 0);
+    // 3 with 001, 1 with 010, 5 with 011
+    t = Check.town(3, "a>b0;b>a0;b>c0;b>a1;b>c1");
+    due("P23 the best behind the next best", t.least(2, 0), 10);
+    due("P23 the gap to the one ahead", t.least(2, 2), 2);
+    due("P23 several with none wrong, last", Check.town(5, "a>b0").least(4, 0), 1223);
+    due("P23 no gap between them", Check.town(5, "a>b0").least(4, 2), 0);
+    due("P23 several with none wrong, first", Check.town(5, "d>e0").least(4, 0), 123);
+    due("P23 no gap there either", Check.town(5, "d>e0").least(4, 2), 0);
+    t = Check.town(7, "a>b0");
+    due("P23 the last parting of all", t.least(7, 0), 123456);
+    due("P23 with none wrong", t.least(7, 1), 0);
+    due("P23 alone with seven parts", t.least(7, 2), -9);
+    t.persons(3);
     due("P23 below", t.least(0, 0), -4);
     due("P23 lowest", t.least(LOWEST, 9), -4);
     due("P23 more than persons", t.least(4, 0), -6);
@@ -579,6 +613,8 @@ public final class PromisesTest {
     t = Check.town(3, "a>b0;a>c0;b>a0;b>c0;c>a0");
     due("P24 one that is not there", t.spoils(0, 0), 210);
     due("P24 by one, too", t.spoils(0, 1), 1);
+    due("P24 of two persons", Check.town(2, "").spoils(1, 0), 10);
+    due("P24 that is not much", Check.town(2, "").spoils(1, 1), 0);
     due("P24 no parting", t.spoils(2, 0), 1000000001);
     due("P24 no parting is told first", t.spoils(-1, 2), 1000000001);
     due("P24 another what", t.spoils(0, 2), 1000000002);
@@ -647,6 +683,7 @@ public final class PromisesTest {
     due("P28 none", t.shift(10, 19, 3), 0);
     due("P28 marks stay", t.shift(0, 10, 0), 0);
     due("P28 up to 100", t.shift(100, 19, 4), 2);
+    due("P28 up to 100 the other way", t.shift(19, 100, 4), 2);
     due("P28 the year is as it was", t.tie(0, 0, 1), 0);
     // {a}{b}{c, d} and {a, b}{c}{d}: a and c keep theirs
     t = Check.town(4, "a>b0@0-10;c>d0@10-20");
@@ -675,6 +712,7 @@ public final class PromisesTest {
     due("P29 by other ties", t.stays(10, 2), 20);
     Check.say(t, "a>c0");
     due("P29 no ties on 100", t.stays(30, 1), 70);
+    due("P29 100 is as the others", Check.town(2, "a>b0;b>a0").stays(0, 3), 101);
     due("P29 no kind", t.stays(0, 5), -1);
     due("P29 no kind is told first", t.stays(-1, -1), -1);
     due("P29 below", t.stays(-1, 0), -4);
