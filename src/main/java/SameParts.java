@@ -905,6 +905,7 @@ public final class SameParts {
       return strengths ? a == b : (a > 0) == (b > 0);
     }
   }
+
   /** Ways to put the persons in another order, tried one behind the other. */
   private static final class Turns {
     private final int[] image = new int[MOST_PERSONS];

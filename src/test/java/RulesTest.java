@@ -6,7 +6,9 @@ import java.lang.reflect.Method;
 import java.lang.reflect.Modifier;
 import java.nio.file.Files;
 import java.nio.file.Path;
+import java.util.ArrayList;
 import java.util.Arrays;
+import java.util.List;
 import java.util.Set;
 import java.util.TreeSet;
 import java.util.regex.Matcher;
@@ -22,6 +24,7 @@ public final class RulesTest {
   public static void main(String[] args) throws IOException {
     face();
     membersHidden();
+    sizes();
     source();
     methodsShort();
     callsMakeNothing();
@@ -72,6 +75,26 @@ public final class RulesTest {
     }
   }
 
+  /** "at most seven parameters", "some twelve classes, and a class some twenty fields beside its constants" */
+  private static void sizes() {
+    List<Class<?>> classes = new ArrayList<>(List.of(SameParts.class.getDeclaredClasses()));
+    classes.add(SameParts.class);
+    CHECK.due("classes", classes.size() <= 12 ? 1 : 0, 1);
+    for (Class<?> one : classes) {
+      int fields = 0;
+      for (Field field : one.getDeclaredFields()) {
+        boolean constant = Modifier.isStatic(field.getModifiers());
+        CHECK.due("static and final " + field, !constant || Modifier.isFinal(field.getModifiers()) ? 1 : 0, 1);
+        CHECK.due("a constant is a number " + field, !constant || field.getType().isPrimitive() ? 1 : 0, 1);
+        fields += constant ? 0 : 1;
+      }
+      CHECK.due("fields of " + one, fields <= 20 ? 1 : 0, 1);
+      for (Method method : one.getDeclaredMethods()) {
+        CHECK.due("parameters of " + method, method.getParameterCount() <= 7 ? 1 : 0, 1);
+      }
+    }
+  }
+
   private static void source() throws IOException {
     String code = Files.readString(SOURCE).replaceAll("(?s)/\\*.*?\\*/|//[^\n]*", "");
     String[] words = {"throw", "throws", "try", "catch", "synchronized", "assert", "import", "package", "instanceof",
@@ -90,7 +113,6 @@ public final class RulesTest {
       bare++;
     }
     CHECK.due("an index stands only where it is tested: at, put, wipe, strength", bare, 4);
-    CHECK.due("classes", code.split("\\bclass\\b").length - 1 <= 12 ? 1 : 0, 1);
   }
 
   private static void methodsShort() throws IOException {
